@@ -8,6 +8,7 @@ public final class AskingTest {
         askMoreOften();
         askCuts();
         askCutsUpwards();
+        askCutsTheMadeOne();
         askWrongly();
         root();
         rootWrongly();
@@ -131,6 +132,29 @@ public final class AskingTest {
         check.due(3, x.count(1));
     }
 
+    private static void askCutsTheMadeOne() {
+        check.test("promise 5: ask, which difference is the last of the way");
+        RootedDeltas x = chain(4);
+        x.root(4);
+        x.set(1, 2);
+        check.due(4, x.ask(1));
+        check.due(0, x.version(2, 1));
+        check.due(1, x.version(1, 1));
+        check.due(1, x.version(0, 3));
+        check.due(4, x.version(2, 3));
+
+        RootedDeltas y = new RootedDeltas();
+        y.make(0, 0, 1);
+        y.make(0, 0, 2);
+        y.root(2);
+        y.set(1, 1);
+        check.due(3, y.ask(1));
+        check.due(0, y.version(1, 1));
+        check.due(1, y.version(2, 1));
+        check.due(1, y.version(1, 3));
+        check.due(2, y.version(0, 3));
+    }
+
     private static void askWrongly() {
         check.test("promise 5: ask, wrong inputs");
         RootedDeltas x = chain(2);
@@ -250,6 +274,13 @@ public final class AskingTest {
         check.due(4, x.count(13));
         check.due(3, x.undo());
         check.due(30, x.count(11));
+
+        RootedDeltas y = new RootedDeltas();
+        check.due(1, y.set(0, 0));
+        check.due(0, y.set(0, 1));
+        check.due(2, y.count(13));
+        check.due(1, y.undo());
+        check.due(0, y.count(10));
     }
 
     private static void setWrongly() {

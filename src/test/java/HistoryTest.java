@@ -4,6 +4,7 @@ public final class HistoryTest {
 
     public static void main(String[] args) {
         undo();
+        undoOfAccounts();
         undoOfEveryAct();
         oldestIsDropped();
         keep();
@@ -33,6 +34,28 @@ public final class HistoryTest {
         check.due(1, x.count(14));
     }
 
+    private static void undoOfAccounts() {
+        check.test("promise 14: undo of the accounts");
+        RootedDeltas x = new RootedDeltas();
+        x.make(0, 0, 5);
+        x.make(1, 0, 6);
+        x.set(1, 1);
+        check.due(3, x.ask(2));
+        check.due(2, x.ask(1));
+        check.due(1, x.count(9));
+        check.due(1, x.count(8));
+        check.due(3, x.undo());
+        check.due(0, x.count(8));
+        check.due(3, x.count(4));
+        check.due(2, x.undo());
+        check.due(0, x.count(9));
+        check.due(0, x.count(3));
+        check.due(1, x.count(1));
+        check.due(1, x.version(2, 1));
+        check.due(1, x.undo());
+        check.due(6, x.count(11));
+    }
+
     private static void undoOfEveryAct() {
         check.test("promise 14: undo of each act");
         for (int act = 0; act < 11; act++) {
@@ -41,11 +64,9 @@ public final class HistoryTest {
             x.keep();
             x.make(1, 1, 5);
             x.make(2, 2, 5);
-            x.cut(2);
             x.set(1, 3);
-            int recorded = x.count(13);
-            check.due(4, recorded);
-            x.undo();
+            x.cut(2);
+            check.due(4, x.count(13));
             String before = Check.state(x);
             doAct(x, act);
             check.yes("act " + act + " did nothing", !before.equals(Check.state(x)));

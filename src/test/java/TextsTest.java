@@ -124,6 +124,9 @@ public final class TextsTest {
         fault(6, "make 24 0 0");
         fault(7, "mix 0 24 0");
         fault(6, "mix 12");
+        fault(5, "mix 24 0 0");
+        fault(8, "mix 12 24 0");
+        fault(6, "join 90");
     }
 
     private static void faultsOfCells() {
@@ -265,6 +268,17 @@ public final class TextsTest {
         check.due(24, x.count(0));
         check.due(1, Check.perform(x, "ask 23"));
         check.due(23, x.version(0, 3));
+        check.due(22, x.version(23, 0));
+        check.due(23, x.remove(5));
+        check.due(1, Check.perform(x, "make 23 0 9"));
+        check.due(23, x.version(5, 0));
+        check.due(23, x.remove(5));
+        check.due(1, Check.perform(x, "mix 23 23 0"));
+        check.due(23, x.version(5, 0));
+        check.due(1, Check.perform(x, "root 10"));
+        check.due(10, x.version(23, 3));
+        check.due(1, Check.perform(x, "root 19"));
+        check.due(19, x.version(23, 3));
     }
 
     private static void stopped() {

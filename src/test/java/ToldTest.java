@@ -198,9 +198,12 @@ public final class ToldTest {
         x.cut(4);
         check.due(2, x.ifRoot(4));
         check.due(1 + 3, x.ifRoot(5));
+        x.ask(0);
+        check.due(1 + 3 + 1, x.ifRoot(5));
+        check.due(2 + 2 + 2, x.ifRoot(1));
         x.remove(2);
-        check.due(1, x.ifRoot(0));
-        check.due(2, x.ifRoot(1));
+        check.due(2, x.ifRoot(0));
+        check.due(4, x.ifRoot(1));
         check.due(RootedDeltas.UNKNOWN, x.ifRoot(2));
         check.due(RootedDeltas.UNKNOWN, x.ifRoot(-1));
         check.due(RootedDeltas.UNKNOWN, x.ifRoot(24));
