@@ -34,10 +34,14 @@ final class Check {
         good = false;
         StackTraceElement[] trace = new Throwable().getStackTrace();
         StackTraceElement place = trace[0];
-        for (int i = 0; i < trace.length && place.getClassName().equals("Check"); i++) {
+        for (int i = 0; i < trace.length && isHelper(place.getClassName()); i++) {
             place = trace[i];
         }
         System.out.println(name + ", line " + place.getLineNumber() + ": " + why);
+    }
+
+    private static boolean isHelper(String place) {
+        return place.equals("Check") || place.equals("Whole");
     }
 
     /** Prints the line that .ci/run reads, and ends the program. */

@@ -294,11 +294,11 @@ public final class ToldTest {
 
     private static void nothingIsChanged() {
         check.test("promises 17 to 25: telling changes nothing");
-        RootedDeltas x = bush();
-        x.ask(4);
-        x.cut(3);
-        String before = Check.state(x);
         for (int one = -1; one < 25; one++) {
+            RootedDeltas x = bush();
+            x.ask(4);
+            x.cut(3);
+            String before = Check.state(x);
             x.ifRoot(one);
             x.bestRoot(one);
             x.ifCut(one);
@@ -308,8 +308,8 @@ public final class ToldTest {
                 x.common(one, other);
                 x.version(one, other);
             }
+            check.same("the state", before, Check.state(x));
+            check.due(4, x.count(13));
         }
-        check.same("the state", before, Check.state(x));
-        check.due(4, x.count(13));
     }
 }
